@@ -27,6 +27,8 @@ final class Model {
     static final class Rec {
         int pack;
         List<Field> fields = new ArrayList<>();
+        /** Kept for speed alone: the fields of a record that stands in the state are never changed in place. */
+        List<Leaf> leaves;
 
         Rec copy() {
             Rec rec = new Rec();
@@ -171,6 +173,13 @@ final class Model {
     }
 
     private List<Leaf> leaves(Rec r) {
+        if (r.leaves == null) {
+            r.leaves = newLeaves(r);
+        }
+        return r.leaves;
+    }
+
+    private List<Leaf> newLeaves(Rec r) {
         size(r);
         List<Leaf> all = new ArrayList<>();
         for (int k = 0; k < r.fields.size(); k++) {
@@ -463,7 +472,7 @@ final class Model {
             if (c == ';') {
                 int[] type = bodies.get(body);
                 r.fields.add(new Field(current.charAt(0), type[0], type[1]));
-                if (leaves(r).size() > 40) {
+                if (newLeaves(r).size() > 40) {
                     return -10 - i;
                 }
                 current = "";
@@ -549,7 +558,12 @@ final class Model {
     }
 
     private boolean owned(int address) {
-        return s.tabs.values().stream().anyMatch(t -> address >= t.base && address < t.base + t.bytes);
+        for (Tab t : s.tabs.values()) {
+            if (address >= t.base && address < t.base + t.bytes) {
+                return true;
+            }
+        }
+        return false;
     }
 
     private boolean roomAt(int base, int bytes) {
@@ -715,9 +729,11 @@ final class Model {
             return free;
         }
         for (int base = 0; base < 1024; base += 16) {
-            while (base + free < 1024 && roomAt(base, free + 1)) {
-                free++;
+            int end = base;
+            while (end < 1024 && !owned(end)) {
+                end++;
             }
+            free = Math.max(free, end - base);
         }
         return free;
     }

@@ -2,7 +2,7 @@ import java.util.Random;
 
 /** Runs of calls, the same ones for every start of the test, on the program and on the model. */
 public final class ModelTest {
-    private static final int RUNS = 60;
+    private static final int RUNS = 150;
     private static final int CALLS = 512;
     private static final String[] WORDS = {
         "a:i8;", "b:u8;", "c:i16;", "d:u16;", "e:i32;", "f:u32;", "g:i64;", "h:b;", "i:%3;", "j:%16;", "k:%9;",
