@@ -36,9 +36,7 @@ public final class RecordLayouts {
     private final State[] saved = new State[MAX_SAVED];
     private int oldestSaved;
     private int savedTotal;
-    private final byte[] text = new byte[MAX_TEXT];
-    private int textLength;
-    private final Reader reader = new Reader();
+    private final Text text = new Text();
     private final BestOrder best = new BestOrder();
     private int searchedRecord = NONE;
     private final View view = new View();
@@ -162,30 +160,29 @@ public final class RecordLayouts {
         if (value < 0 || value > 127) {
             throw new IllegalArgumentException("the value is no byte of a text");
         }
-        if (textLength >= MAX_TEXT) {
+        if (text.length >= MAX_TEXT) {
             throw new IllegalStateException("the text is full");
         }
-        text[textLength] = (byte) value;
-        textLength++;
-        return textLength;
+        text.add(value);
+        return text.length;
     }
 
     public int clearText() {
-        int length = textLength;
-        textLength = 0;
+        int length = text.length;
+        text.length = 0;
         return length;
     }
 
     public int define(int pack) throws IllegalArgumentException, IllegalStateException {
         checkPack(pack);
         checkRecordRoom();
-        int error = reader.read(text, textLength, shapes, now.records);
+        int error = text.readDefinition(shapes, now.records);
         if (error != NONE) {
             return SYNTAX_ERROR - error;
         }
         save();
         int record = now.records;
-        now.fields[record].copyFrom(reader.draft);
+        now.fields[record].copyFrom(text.draft);
         now.fields[record].pack = pack;
         now.records++;
         buildShape(record);
@@ -492,7 +489,7 @@ public final class RecordLayouts {
         for (int i = 0; i < MEMORY_BYTES; i++) {
             h = 31 * h + (now.memory[i] & 0xFF);
         }
-        h = 31 * h + textLength;
+        h = 31 * h + text.length;
         return 31 * h + savedTotal;
     }
 
@@ -745,12 +742,12 @@ public final class RecordLayouts {
     }
 
     private boolean isText(long path) {
-        for (int i = 0; i < textLength; i++) {
-            if (signOfPath(path, i) != text[i]) {
+        for (int i = 0; i <= text.length; i++) {
+            if (signOfPath(path, i) != text.signAt(i)) {
                 return false;
             }
         }
-        return signOfPath(path, textLength) == NONE;
+        return true;
     }
 
     // ---- tables and memory, inside
@@ -1265,27 +1262,32 @@ public final class RecordLayouts {
         }
     }
 
-    /** Reads a definition from a text. */
-    private static final class Reader {
+    /** The text, and the fields that it defines. */
+    private static final class Text {
+        int length;
         final Fields draft = new Fields();
-        private byte[] text;
-        private int length;
+        private final byte[] signs = new byte[MAX_TEXT];
         private int at;
         private int leaves;
-        private Shape[] shapes;
-        private int records;
+
+        void add(int sign) {
+            if (length < MAX_TEXT) {
+                signs[length] = (byte) sign;
+                length++;
+            }
+        }
+
+        int signAt(int index) {
+            return index >= 0 && index < length ? signs[index] : NONE;
+        }
 
         /** Returns the syntax error position, or NONE; without an error the draft has the fields. */
-        int read(byte[] newText, int newLength, Shape[] newShapes, int newRecords) {
-            text = newText;
-            length = newLength;
-            shapes = newShapes;
-            records = newRecords;
+        int readDefinition(Shape[] shapes, int records) {
             at = 0;
             leaves = 0;
             draft.start(1);
             for (int i = 0; i <= MAX_FIELDS; i++) {
-                if (!readField()) {
+                if (!readField(shapes, records)) {
                     return at;
                 }
                 if (at >= length) {
@@ -1296,8 +1298,8 @@ public final class RecordLayouts {
         }
 
         /** Stops where a byte cannot stand, and returns false then; so do the other methods with NONE. */
-        private boolean readField() {
-            int name = sign();
+        private boolean readField(Shape[] shapes, int records) {
+            int name = signAt(at);
             if (name < 'a' || name > 'z' || draft.hasName(name) || draft.total >= MAX_FIELDS) {
                 return false;
             }
@@ -1305,7 +1307,7 @@ public final class RecordLayouts {
             if (!takes(':')) {
                 return false;
             }
-            int type = readType();
+            int type = readType(shapes, records);
             if (type == NONE) {
                 return false;
             }
@@ -1318,7 +1320,7 @@ public final class RecordLayouts {
             return leaves <= MAX_LEAVES && takes(';');
         }
 
-        private int readType() {
+        private int readType(Shape[] shapes, int records) {
             if (takes('b')) {
                 return BOOL;
             }
@@ -1329,7 +1331,7 @@ public final class RecordLayouts {
                 return readSize(false);
             }
             if (takes('#')) {
-                return readRecord();
+                return readRecord(shapes, records);
             }
             return takes('%') ? readWidth() : NONE;
         }
@@ -1348,7 +1350,7 @@ public final class RecordLayouts {
             return signed && takes('6') && takes('4') ? I64 : NONE;
         }
 
-        private int readRecord() {
+        private int readRecord(Shape[] shapes, int records) {
             int record = digit();
             if (record == NONE || record >= records || shapes[record].leaves.total < 1) {
                 return NONE;
@@ -1383,17 +1385,13 @@ public final class RecordLayouts {
             return takes(']') ? count : NONE;
         }
 
-        private int sign() {
-            return at < length ? text[at] : NONE;
-        }
-
         private int digit() {
-            int sign = sign();
+            int sign = signAt(at);
             return sign >= '0' && sign <= '9' ? sign - '0' : NONE;
         }
 
         private boolean takes(char wanted) {
-            if (sign() != wanted) {
+            if (signAt(at) != wanted) {
                 return false;
             }
             at++;

@@ -377,9 +377,14 @@ final class Model {
         }
     }
 
+    private Rec bestFoundFor;
+
     long bestSize(int record) {
-        bestFoundOrder = null;
-        permute(rec(record), new ArrayList<>());
+        if (bestFoundFor != rec(record)) {
+            bestFoundFor = rec(record);
+            bestFoundOrder = null;
+            permute(rec(record), new ArrayList<>());
+        }
         return bestFound;
     }
 

@@ -242,14 +242,87 @@ public final class ModelTest {
         same("digest()", () -> program.digest(), () -> model.digest());
     }
 
+    private static void fresh(String kind, int run) {
+        program = new RecordLayouts();
+        model = new Model();
+        random = new Random(run);
+        trace = kind + " " + run + ":";
+        LOG.setLength(0);
+    }
+
+    private static String typeText() {
+        switch (below(6)) {
+            case 0: return "%" + (1 + below(17));
+            case 1: return "#" + below(4);
+            default: return new String[] {"i8", "u8", "i16", "u16", "i32", "u32", "i64", "b"}[below(8)];
+        }
+    }
+
+    private static String definitionText() {
+        StringBuilder text = new StringBuilder();
+        int fields = 1 + below(9);
+        for (int f = 0; f < fields; f++) {
+            text.append((char) ('a' + (below(30) == 0 ? below(8) : f))).append(':').append(typeText());
+            if (below(4) == 0) {
+                text.append('[').append(1 + below(4)).append(']');
+            }
+            text.append(';');
+        }
+        for (int i = below(3); i > 0 && text.length() > 0; i--) {
+            int at = below(text.length());
+            char sign = "abhiu#%[];:0123456789A".charAt(below(22));
+            switch (below(4)) {
+                case 0: text.deleteCharAt(at); break;
+                case 1: text.insert(at, sign); break;
+                case 2: text.setCharAt(at, sign); break;
+                default: text.setLength(at);
+            }
+        }
+        return text.substring(0, Math.min(80, text.length()));
+    }
+
+    private static void definitions(int run) {
+        fresh("definitions", run);
+        define("a:i8;b:i64;");
+        same("newRecord(8)", () -> (long) program.newRecord(8), () -> model.newRecord(8));
+        define("a:i32[4];b:%3;c:u8[4];");
+        for (int i = 0; i < 20; i++) {
+            define(definitionText());
+            same("digest()", () -> program.digest(), () -> model.digest());
+            if (model.records() == 6) {
+                same("undo()", () -> (long) program.undo(), () -> model.undo());
+            }
+        }
+    }
+
+    private static void orders(int run) {
+        fresh("orders", run);
+        define("a:i8;b:i64;");
+        define(run % 2 == 0 ? "a:i16;b:u8;" : "a:%3;b:u8[3];");
+        int pack = 1 << below(4);
+        same("newRecord(" + pack + ")", () -> (long) program.newRecord(pack), () -> model.newRecord(pack));
+        int fields = run % 10 == 0 ? 8 : 3 + below(5);
+        for (int f = 0; f < fields; f++) {
+            int name = 'a' + f;
+            int type = below(3) > 0 ? below(8) : below(3) > 0 ? 21 + below(16) : 100 + below(2);
+            int count = type < 20 && below(3) == 0 ? 1 + below(4) : 1;
+            same("addField(2, " + name + ", " + type + ", " + count + ")",
+                    () -> (long) program.addField(2, name, type, count), () -> model.addField(2, name, type, count));
+        }
+        same("bestSize(2)", () -> (long) program.bestSize(2), () -> model.bestSize(2));
+        for (int i = 0; i < fields; i++) {
+            int position = i;
+            same("bestOrder(2, " + i + ")",
+                    () -> (long) program.bestOrder(2, position), () -> model.bestOrder(2, position));
+        }
+    }
+
     public static void main(String[] args) {
         int runs = args.length > 0 ? Integer.parseInt(args[0]) : RUNS;
         for (int run = 0; run < runs; run++) {
-            program = new RecordLayouts();
-            model = new Model();
-            random = new Random(run);
-            trace = "run " + run + ":";
-            LOG.setLength(0);
+            definitions(run);
+            orders(run);
+            fresh("run", run);
             for (int i = 0; i < 1 + run % 5; i++) {
                 define(RECORDS[below(RECORDS.length)]);
             }
