@@ -1472,7 +1472,7 @@ public final class RecordLayouts {
             if (width[f] == 0) {
                 return 0;
             }
-            return fits(left, f) ? left - width[f] : UNIT_BITS - width[f];
+            return width[f] <= left ? left - width[f] : UNIT_BITS - width[f];
         }
 
         private void choose() {

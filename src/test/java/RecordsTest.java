@@ -81,12 +81,16 @@ public final class RecordsTest {
         RecordLayouts x = new RecordLayouts();
         Check.record(x, 8, "a:i8[4];b:i8[4];");
         x.newRecord(8);
-        Check.due("3 32 leaves", x.addField(1, 'a', 100, 4), 1);
+        Check.due("3 32 leaves", x.addField(1, 'm', 100, 4), 1);
         Check.state("3 the type of a field", x, () -> x.addField(0, 'c', 0, 1));
         Check.argument("3 in use, but the argument first", x, () -> x.addField(0, 'a', 0, 1));
         Check.state("3 48 leaves", x, () -> x.addField(1, 'b', 100, 2));
         Check.due("3 40 leaves", x.addField(1, 'b', 100, 1), 2);
         Check.state("3 41 leaves", x, () -> x.addField(1, 'c', 21, 1));
+        x.undo();
+        Check.due("3 36 leaves", x.addField(1, 'z', 0, 4), 2);
+        Check.due("3 40 leaves with plain ones", x.addField(1, 'y', 7, 4), 3);
+        x.undo();
         x.undo();
         x.undo();
         Check.due("3 no longer in use", x.recordInfo(0, 6), 0);
@@ -132,6 +136,8 @@ public final class RecordsTest {
         // With pack 1 a unit may have an odd offset.
         placed(1, "a:i8;b:%3;c:%13;d:i8;", 0, 0, 1, 0, 1, 3, 3, 0, 4, 1, 0);
         placed(8, "a:i8;b:%3;", 0, 0, 2, 0, 4, 2, 1);
+        placed(8, "a:i8;b:%1;", 0, 0, 2, 0, 4, 2, 1);
+        placed(8, "a:%15;b:%1;c:%1;", 0, 0, 0, 15, 2, 0, 4, 2, 0);
         // Records within records: the alignment is the smaller one of theirs and the pack.
         placed(8, "a:i8;b:#0[2];c:i8;", 0, 0, 8, 0, 40, 0, 48, 8, 28);
         placed(4, "a:i8;b:#0[2];c:i8;", 0, 0, 4, 0, 36, 0, 40, 4, 20);
@@ -292,11 +298,14 @@ public final class RecordsTest {
         Check.index("11 position 1", x, () -> x.bestOrder(0, 1));
         Check.index("11 position -1", x, () -> x.bestOrder(0, -1));
         Check.index("11 record 1", x, () -> x.bestOrder(1, 0));
+        Check.index("11 record -1", x, () -> x.bestOrder(-1, 0));
+        Check.index("11 record 6", x, () -> x.bestOrder(6, 0));
         Check.index("10 record -1", x, () -> x.bestSize(-1));
     }
 
     private static void bestWithBits() {
         bestIs(8, "a:%9;b:i16;c:%7;", 4, 0, 2, 1);
+        bestIs(8, "a:%15;b:i16;c:%1;", 4, 0, 2, 1);
         bestIs(8, "a:%9;b:%9;c:%7;d:%7;", 4, 0, 2, 1, 3);
         bestIs(8, "a:%10;b:%10;c:%3;d:%3;e:%3;f:%3;", 4, 0, 2, 3, 1, 4, 5);
         bestIs(1, "a:%9;b:i8;c:%7;", 3, 0, 2, 1);

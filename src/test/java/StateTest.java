@@ -179,13 +179,14 @@ public final class StateTest {
         x.newRecord(8);
         x.newTable(0, 2, 0, 0);
         x.newTable(0, 3, 1, 1);
-        x.removeTable(0);
+        x.newTable(0, 1, 8, 0);
+        x.removeTable(1);
         x.append('q');
         x.append('q');
         x.poke(0, 200);
         x.poke(1023, 255);
-        long[] head = {2, 4, 3, 4, 2, 0, 4, 'b', 0, 2, 0, 0, 'a', 23, 1, 2, 0, 'c', 26, 1, 2, 3, 8, 0, 0, 1, 0, 0, 2,
-            0, 3, 1, 1, 16, 24};
+        long[] head = {2, 4, 3, 4, 2, 0, 4, 'b', 0, 2, 0, 0, 'a', 23, 1, 2, 0, 'c', 26, 1, 2, 3, 8, 0, 0, 1, 0, 0, 5,
+            0, 2, 0, 0, 0, 8, 0, 1, 8, 0, 48, 48};
         long[] values = new long[head.length + 1024 + 2];
         System.arraycopy(head, 0, values, 0, head.length);
         values[head.length] = 200;

@@ -181,6 +181,9 @@ public final class TextsTest {
         Check.write(x, "a:#0[4];");
         Check.due("14 40 leaves", x.define(8), 1);
         Check.due("14 leaves", x.recordInfo(1, 5), 40);
+        Check.write(x, "a:#0[3];b:i8[4];c:b[4];d:%3;e:u8;");
+        Check.due("14 40 leaves with plain ones", x.define(8), 2);
+        Check.due("14 leaves", x.recordInfo(2, 5), 40);
         Check.write(x, "a:#1;b:b;");
         Check.due("14 a full record and a leaf", x.define(8), -18);
         Check.write(x, "a:#1[2];");
