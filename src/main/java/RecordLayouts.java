@@ -1120,7 +1120,7 @@ public final class RecordLayouts {
         void layOut(Shape shape, int newRows, int layout) {
             rows = newRows;
             leaves = shape.leaves.total;
-            blockRows = layout == 0 ? 1 : layout == 1 ? Math.max(newRows, 1) : layout;
+            blockRows = Math.max(layout == 1 ? newRows : layout, 1);
             int end = 0;
             for (int k = 0; k < leaves; k++) {
                 type[k] = shape.leaves.type[k];

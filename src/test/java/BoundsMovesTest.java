@@ -15,6 +15,7 @@ public final class BoundsMovesTest {
         migrateWithoutAPathInCommon();
         migrateToTheSameRecord();
         migrateComparesWholePaths();
+        migrateFromALeafThatWasUndone();
         migrateBetweenAllTypes();
         migrateKeepsTheByteOrder();
         migrateClearsAllItsBytes();
@@ -303,6 +304,24 @@ public final class BoundsMovesTest {
         for (int leaf = 0; leaf < second.length; leaf++) {
             Check.due("26 leaf " + leaf, x.get(0, 1, leaf), second[leaf]);
         }
+    }
+
+    /** "that of a leaf of the old one": not of one that it had before undo, and of none behind the 40th leaf. */
+    private static void migrateFromALeafThatWasUndone() {
+        RecordLayouts x = Bounds.records(8, "a:b;", "z:i8;y:i8[2];a:i8;");
+        x.addField(0, 'z', 0, 1);
+        x.undo();
+        x.newTable(0, 3, 0, 0);
+        x.fill(0, 0, 1, 0);
+        Check.due("26 a alone", x.migrate(0, 1, 0), 1);
+        int[] want = {0, 0, 0, 3};
+        for (int leaf = 0; leaf < 4; leaf++) {
+            Check.due("33 leaf " + leaf, x.sum(0, leaf), want[leaf]);
+        }
+        RecordLayouts y = Bounds.records(8, "a:b[4];b:%5;", "a:#0[4];b:#0[4];", "z:#0;b:#0;");
+        y.newTable(1, 2, 0, 0);
+        Check.due("26 from 40 leaves none", y.migrate(0, 2, 0), 0);
+        Check.due("26 and to 40 leaves none", y.migrate(0, 1, 0), 0);
     }
 
     /** A leaf gets the value that is read, and of it as many bits as it has. */

@@ -20,6 +20,7 @@ public final class BoundsQuestionsTest {
         bothBytesOfAUnit();
         lastLineOfTheMemory();
         runsThatMeet();
+        runsFromAllAddresses();
         runsWithAGapOfOneByte();
         runsOfLeavesInAnyOrder();
         runsOfAllLayouts();
@@ -27,6 +28,7 @@ public final class BoundsQuestionsTest {
         bestLayoutOfNone();
         bestLayoutIsTheLowest();
         bestLayoutAtBaseZero();
+        bestLayoutAfterAMove();
         bestLayoutOfOneRow();
         bestLayoutBeyondTheMemory();
         bestLayoutOfEach();
@@ -335,6 +337,34 @@ public final class BoundsQuestionsTest {
         }
     }
 
+    /** Runs of bytes that begin and end at all addresses, those around multiples of 64 among them. */
+    private static void runsFromAllAddresses() {
+        long[] sets = {1, 0x8000, 0x8001, 0x4000, 0x4001, 0xC000, 0xC001, 3, 0x8003, 0x4002, 0xFFFF, 0x7FFE, 0x5555, 0xAAAA};
+        for (int rows = 1; rows <= 12; rows++) {
+            RecordLayouts x = Bounds.records(1, "a:u8[4];b:u8[4];c:u8[4];d:u8[4];");
+            x.newTable(0, rows, 0, 0);
+            for (long set : sets) {
+                // 16 bytes a row: leaf k of row i has the address 16 * i + k.
+                boolean before = false;
+                int want = 0;
+                for (int address = 0; address < 16 * rows; address++) {
+                    boolean now = (set >> address % 16 & 1) == 1;
+                    want += now && !before ? 1 : 0;
+                    before = now;
+                }
+                Check.due("35 leaves " + set + " of " + rows + " rows", x.runs(0, set, 0, rows - 1), want);
+            }
+        }
+        for (int row = 0; row < 11; row++) {
+            RecordLayouts x = Bounds.records(1, "a:u8[4];b:u8[4];c:u8[4];d:u8[4];");
+            x.newTable(0, 12, 0, 0);
+            Check.due("35 the last byte of a row and the first one of the next", x.runs(0, 0x8001, row, row + 1), 3);
+            Check.due("35 with a gap of one byte", x.runs(0, 0x4001, row, row + 1), 4);
+            Check.due("35 with a gap of one byte behind", x.runs(0, 0x8002, row, row + 1), 4);
+            Check.due("35 two bytes and two bytes", x.runs(0, 0xC003, row, row + 1), 3);
+        }
+    }
+
     private static void runsWithAGapOfOneByte() {
         RecordLayouts x = Bounds.table("a:u8;b:u16;c:u8;d:u8[2];", 4, 0, 0);
         // a 0, b 2 to 4, c 4, d 5 and 6; 8 bytes a row.
@@ -421,6 +451,29 @@ public final class BoundsQuestionsTest {
                     Check.due("36 leaves " + set + " behind " + before, x.bestLayout(1, set, line),
                             fewest("a:u8;b:i16;c:i64;", 7, set, line));
                 }
+            }
+        }
+    }
+
+    /** Neither the place of the table nor that of one which was moved before counts. */
+    private static void bestLayoutAfterAMove() {
+        String definition = "a:u8;b:i16;c:i64;";
+        for (int moves = 0; moves <= 3; moves++) {
+            RecordLayouts x = Bounds.records(8, "a:i64[2];", definition);
+            x.newTable(1, 7, 0, 0);
+            x.newTable(0, 1, 0, 0);
+            for (int i = 0; i < moves; i++) {
+                x.convert(1, i, 1);
+            }
+            for (int line = 16; line <= 64; line *= 2) {
+                for (int set = 0; set < 8; set++) {
+                    Check.due("36 leaves " + set + " after " + moves, x.bestLayout(0, set, line),
+                            fewest(definition, 7, set, line));
+                }
+            }
+            x.convert(0, 3, 1);
+            for (int set = 0; set < 8; set++) {
+                Check.due("36 leaves " + set + ", itself moved", x.bestLayout(0, set, 32), fewest(definition, 7, set, 32));
             }
         }
     }

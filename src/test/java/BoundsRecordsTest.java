@@ -15,6 +15,7 @@ public final class BoundsRecordsTest {
         countOfABitFieldIsOne();
         recordTypeHasASmallerNumberAndFields();
         atMostFortyLeaves();
+        atMostFortyLeavesOfPlainTypes();
         leavesOfTheLastElement();
         pathHasAnIndexIfCountIsGreaterThanOne();
         pathHasNoSuchByte();
@@ -23,6 +24,7 @@ public final class BoundsRecordsTest {
         firstFieldAtZero();
         unitHasEnoughBitsLeft();
         unitOfTheFieldBefore();
+        placedWhereOneWasUndone();
         bitFieldInsideARecord();
         recordWithoutFields();
         sizeIsRoundedUp();
@@ -234,6 +236,31 @@ public final class BoundsRecordsTest {
         }
     }
 
+    /** The same with fields of plain types and bit fields: 36 to 40 leaves and 1 to 4 more. */
+    private static void atMostFortyLeavesOfPlainTypes() {
+        for (int have = 36; have <= 40; have++) {
+            for (int type : new int[] {0, 6, 7, 21, 36}) {
+                for (int count = 1; count <= (type < 20 ? 4 : 1); count++) {
+                    RecordLayouts x = withLeaves(9);
+                    x.newRecord(1);
+                    x.addField(2, 'a', 101, 4);
+                    if (have > 36) {
+                        x.addField(2, 'b', 7, have - 36);
+                    }
+                    int times = count;
+                    Check.due("5 leaves", x.recordInfo(2, 5), have);
+                    if (have + count <= 40) {
+                        x.addField(2, 'c', type, count);
+                        Check.due("3 " + have + " and " + count + " of type " + type, x.recordInfo(2, 5), have + count);
+                    } else {
+                        Check.state("3 " + have + " and " + count + " of type " + type, x,
+                                () -> x.addField(2, 'c', type, times));
+                    }
+                }
+            }
+        }
+    }
+
     /** "for each field in order and for each of its elements in order ... They are numbered from 0." */
     private static void leavesOfTheLastElement() {
         RecordLayouts x = withLeaves(10);
@@ -395,6 +422,38 @@ public final class BoundsRecordsTest {
         x.undo();
         x.addField(1, 'b', 26, 1);
         Check.due("6 the undone field is not before it", x.fieldInfo(1, 1, 4), 10);
+    }
+
+    /** A field that is placed where one was undone has its own unit and bit. */
+    private static void placedWhereOneWasUndone() {
+        RecordLayouts x = Bounds.records(8, "-");
+        x.addField(0, 'a', 23, 1);
+        x.undo();
+        x.addField(0, 'a', 23, 1);
+        Check.due("6 a first bit field again", x.fieldInfo(0, 0, 3), 0);
+        Check.due("6 its lowest bit", x.fieldInfo(0, 0, 4), 0);
+        Check.due("5 size", x.recordInfo(0, 2), 2);
+        x.addField(0, 'b', 25, 1);
+        Check.due("6 bits behind it", x.fieldInfo(0, 1, 4), 3);
+        x.undo();
+        x.addField(0, 'b', 1, 1);
+        Check.due("6 a byte where there was a bit field", x.fieldInfo(0, 1, 4), 0);
+        Check.due("7 its leaf", x.leafInfo(0, 1, 2), 0);
+        Check.due("6 its offset", x.fieldInfo(0, 1, 3), 2);
+        RecordLayouts y = new RecordLayouts();
+        y.newRecord(8);
+        y.addField(0, 'a', 6, 1);
+        y.addField(0, 'b', 30, 1);
+        y.undo();
+        y.undo();
+        y.undo();
+        y.newRecord(2);
+        y.addField(0, 'a', 22, 1);
+        Check.due("6 a bit field of a record in place of another one", y.fieldInfo(0, 0, 3), 0);
+        Check.due("5 its size", y.recordInfo(0, 2), 2);
+        Check.due("5 its alignment", y.recordInfo(0, 3), 2);
+        Check.due("5 its padding", y.recordInfo(0, 4), 0);
+        Check.due("5 its leaves", y.recordInfo(0, 5), 1);
     }
 
     /** The leaves of a record have its units and bits, too. */
@@ -636,6 +695,8 @@ public final class BoundsRecordsTest {
         best(8, "a:%8;b:i8;c:%8;d:i8;", 4, 0, 2, 1, 3);
         best(8, "a:i8;b:%8;c:i8;d:%8;", 4, 0, 2, 1, 3);
         best(8, "a:%1;b:i8;c:%15;d:i64;", 16, 0, 1, 2, 3);
+        best(8, "a:%1;b:%16;c:%15;", 4, 0, 2, 1);
+        best(8, "a:%1;b:%1;c:%16;d:%14;", 4, 0, 1, 3, 2);
     }
 
     /** The best order follows the fields that the record has now. */
@@ -645,9 +706,14 @@ public final class BoundsRecordsTest {
         Check.due("10 record 1", x.bestSize(1), 4);
         Check.due("11 record 0", x.bestOrder(0, 1), 1);
         Check.due("11 record 1", x.bestOrder(1, 1), 2);
+        Check.due("10 record 0 again", x.bestSize(0), 16);
         x.addField(0, 'c', 0, 1);
-        Check.due("10 record 0 with one more", x.bestSize(0), 16);
         Check.due("11 record 0 with one more", x.bestOrder(0, 1), 2);
+        Check.due("10 record 0 with one more", x.bestSize(0), 16);
+        x.addField(0, 'd', 6, 1);
+        Check.due("10 record 0 with two more", x.bestSize(0), 24);
+        x.undo();
+        Check.due("10 record 0 without the second one", x.bestSize(0), 16);
         x.undo();
         Check.due("11 record 0 without it", x.bestOrder(0, 1), 1);
         Check.index("11 and no position 2", x, () -> x.bestOrder(0, 2));

@@ -21,6 +21,7 @@ public final class BoundsTablesTest {
         noRoom();
         createdWithZeros();
         removedBytesStay();
+        eachTableForItself();
         numbersOfTables();
         numbersOfRows();
         numbersOfLeaves();
@@ -417,6 +418,47 @@ public final class BoundsTablesTest {
             Check.due("16 they stay", Check.bytes(x, 0, bytes + 1), "c3".repeat(bytes + 1));
             Check.due("24 they are free", x.freeBytes(false), 1024);
             Check.due("24 and room", x.freeBytes(true), 1024);
+        }
+    }
+
+    /** Tables 0 and 2 of three, which differ in all that a table has. */
+    private static RecordLayouts three() {
+        RecordLayouts x = Bounds.records(8, "a:i32;b:i8;", "a:%9;b:i64;c:b;", "a:i8;b:%5;");
+        x.newTable(0, 5, 0, 0);
+        x.newTable(1, 12, 3, 1);
+        x.newTable(2, 7, 1, 1);
+        for (int table = 0; table < 3; table++) {
+            x.fill(table, 0, 100 * table + 3, -1);
+            x.fill(table, 1, 7, 1);
+        }
+        return x;
+    }
+
+    /** What is asked of a table does not depend on the table that was asked before it. */
+    private static void eachTableForItself() {
+        Bounds.CallWith[] calls = {(x, t) -> x.tableInfo(t, 5), (x, t) -> x.address(t, 4, 1), (x, t) -> x.get(t, 4, 1),
+            (x, t) -> x.set(t, 4, 1, -1), (x, t) -> x.convert(t, 2, 0), (x, t) -> x.migrate(t, 1, 2),
+            (x, t) -> x.sort(t, 0, false), (x, t) -> x.fill(t, 1, -5, 3), (x, t) -> x.copyRow(t, 0, 4),
+            (x, t) -> x.count(t, 0, 2, 0), (x, t) -> x.findRow(t, 0, 100 * t, 0), (x, t) -> x.sum(t, 1),
+            (x, t) -> x.lines(t, 3, 0, 4, 16), (x, t) -> x.runs(t, 2, 0, 4), (x, t) -> x.bestLayout(t, 2, 16),
+            (x, t) -> x.removeTable(t), (x, t) -> x.compact()};
+        for (int i = 0; i < calls.length; i++) {
+            for (int asked = 0; asked < 3; asked++) {
+                int table = asked;
+                Bounds.CallWith call = calls[i];
+                RecordLayouts x = three();
+                x.get(table, 0, 0);
+                Object want = Check.answer(() -> call.of(x, table));
+                Check.due("call " + i + " is refused", want instanceof String ? 1 : 0, 0);
+                for (int other = 0; other < 3; other++) {
+                    RecordLayouts y = three();
+                    y.get(other, 0, 0);
+                    y.bestLayout(other, 1, 64);
+                    Check.due("call " + i + " of table " + asked + " after " + other, Check.answer(() -> call.of(y, table)),
+                            want);
+                    Check.due("38 digest after call " + i, y.digest(), x.digest());
+                }
+            }
         }
     }
 

@@ -181,6 +181,12 @@ public final class BoundsTextsTest {
         Check.due("14 and no longer", x.define(8), -13);
         x.undo();
         Check.due("14 the record does not even exist", x.define(8), -13);
+        RecordLayouts y = Bounds.records(8, "a:b;", "a:b;");
+        Check.write(y, "z:#1;");
+        y.undo();
+        Check.due("14 a record that was undone with its fields", y.define(8), -13);
+        y.newRecord(8);
+        Check.due("14 a new one in its place", y.define(8), -13);
     }
 
     /** With 5 records the digits 0 to 4 can stand, and never that of the record itself. */
