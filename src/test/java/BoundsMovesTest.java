@@ -236,7 +236,8 @@ public final class BoundsMovesTest {
 
     /** "... or there is no room" */
     private static void migrateWithoutRoom() {
-        RecordLayouts x = Bounds.records(8, "a:i64[4];b:i64[4];", "a:i64[4];b:i64[4];c:i8;", "a:i64[4];b:i64[4];c:i64;");
+        RecordLayouts x = Bounds.records(8, "a:i64[4];b:i64[4];", "a:i64[4];b:i64[4];c:i8;",
+                "a:i64[4];b:i64[4];c:i64;");
         x.newTable(0, 8, 0, 0);
         Check.state("26 576 bytes", x, () -> x.migrate(0, 1, 0));
         Check.state("26 520 bytes by columns", x, () -> x.migrate(0, 1, 1));
@@ -548,7 +549,8 @@ public final class BoundsMovesTest {
     private static void sortEqualRows() {
         for (boolean descending : new boolean[] {false, true}) {
             sorted("equal rows", column(6, 0, 5, 5, 5, 5), descending, 0, 0, 1, 2, 3);
-            sorted("twelve equal rows", column(4, 1, new long[12]), descending, 0, 0, 1, 2, 3, 4, 5, 6, 7, 8, 9, 10, 11);
+            sorted("twelve equal rows", column(4, 1, new long[12]), descending, 0, 0, 1, 2, 3, 4, 5, 6, 7, 8, 9, 10,
+                    11);
         }
         sorted("pairs", column(0, 2, 2, 1, 2, 1), false, 4, 1, 3, 0, 2);
         sorted("pairs, descending", column(0, 2, 1, 2, 1, 2), true, 4, 1, 3, 0, 2);
@@ -560,7 +562,8 @@ public final class BoundsMovesTest {
     private static void sortTwelveRows() {
         long[] down = {11, 10, 9, 8, 7, 6, 5, 4, 3, 2, 1, 0};
         for (int layout = 0; layout <= 8; layout++) {
-            sorted("twelve rows turned around", column(2, layout, down), false, 12, 11, 10, 9, 8, 7, 6, 5, 4, 3, 2, 1, 0);
+            sorted("twelve rows turned around", column(2, layout, down), false, 12, 11, 10, 9, 8, 7, 6, 5, 4, 3, 2, 1,
+                    0);
             sorted("twelve rows as they are", column(2, layout, down), true, 0, 0, 1, 2, 3, 4, 5, 6, 7, 8, 9, 10, 11);
             sorted("the row in the middle stays", column(2, layout, 5, 4, 3, 2, 1), false, 4, 4, 3, 2, 1, 0);
             sorted("the first one goes last", column(2, layout, 9, 1, 2, 3), false, 4, 1, 2, 3, 0);

@@ -208,7 +208,8 @@ public final class BoundsQuestionsTest {
                 Check.due("35 from " + from + " to " + to, Check.answer(() -> x.runs(0, 1, first, last)), want);
                 Check.due("34 without a leaf, from " + from + " to " + to,
                         Check.answer(() -> x.lines(0, 0, first, last, 16)), want.equals(1L) ? 0L : want);
-                Check.due("34 from " + from + " to " + to + ", line 17", Check.answer(() -> x.lines(0, 1, first, last, 17)),
+                Check.due("34 from " + from + " to " + to + ", line 17",
+                        Check.answer(() -> x.lines(0, 1, first, last, 17)),
                         rows ? "throws.IllegalArgumentException" : want);
             }
         }
@@ -339,7 +340,8 @@ public final class BoundsQuestionsTest {
 
     /** Runs of bytes that begin and end at all addresses, those around multiples of 64 among them. */
     private static void runsFromAllAddresses() {
-        long[] sets = {1, 0x8000, 0x8001, 0x4000, 0x4001, 0xC000, 0xC001, 3, 0x8003, 0x4002, 0xFFFF, 0x7FFE, 0x5555, 0xAAAA};
+        long[] sets = {1, 0x8000, 0x8001, 0x4000, 0x4001, 0xC000, 0xC001, 3, 0x8003, 0x4002, 0xFFFF, 0x7FFE, 0x5555,
+                0xAAAA};
         for (int rows = 1; rows <= 12; rows++) {
             RecordLayouts x = Bounds.records(1, "a:u8[4];b:u8[4];c:u8[4];d:u8[4];");
             x.newTable(0, rows, 0, 0);
@@ -473,7 +475,8 @@ public final class BoundsQuestionsTest {
             }
             x.convert(0, 3, 1);
             for (int set = 0; set < 8; set++) {
-                Check.due("36 leaves " + set + ", itself moved", x.bestLayout(0, set, 32), fewest(definition, 7, set, 32));
+                Check.due("36 leaves " + set + ", itself moved", x.bestLayout(0, set, 32),
+                        fewest(definition, 7, set, 32));
             }
         }
     }
@@ -528,7 +531,8 @@ public final class BoundsQuestionsTest {
                     for (int line = 16; line <= 64; line *= 2) {
                         int want = fewest(definition, rows, set, line);
                         seen[want] = true;
-                        Check.due("36 leaves " + set + " of " + rows + " rows of " + definition + " in lines of " + line,
+                        String what = set + " of " + rows + " rows of " + definition + " in lines of " + line;
+                        Check.due("36 leaves " + what,
                                 Bounds.table(definition, rows, 0, 0).bestLayout(0, set, line), want);
                     }
                 }

@@ -122,7 +122,8 @@ public final class BoundsRecordsTest {
         Bounds.range("3 name", IllegalArgumentException.class, n -> n >= 'a' && n <= 'z',
                 () -> Bounds.records(8, "-"), (x, n) -> x.addField(0, n, 0, 1));
         Bounds.range("3 name of the second field", IllegalArgumentException.class,
-                n -> n >= 'a' && n <= 'z' && n != 'm', () -> Bounds.records(8, "m:b;"), (x, n) -> x.addField(0, n, 0, 1));
+                n -> n >= 'a' && n <= 'z' && n != 'm', () -> Bounds.records(8, "m:b;"),
+                        (x, n) -> x.addField(0, n, 0, 1));
     }
 
     /** "different names in a record" */
@@ -132,7 +133,8 @@ public final class BoundsRecordsTest {
             Check.argument("3 name " + name + " for a second time", x, () -> x.addField(1, name, 0, 1));
         }
         Check.due("3 a name of the record in a field", x.addField(1, 'm', 0, 1), 8);
-        Check.argument("3 the name of the eighth field, too, before the ninth field", x, () -> x.addField(1, 'm', 0, 1));
+        Check.argument("3 the name of the eighth field, too, before the ninth field", x,
+                () -> x.addField(1, 'm', 0, 1));
         x.undo();
         Check.due("3 the undone name is free", x.addField(1, 'm', 0, 1), 8);
     }
@@ -495,7 +497,8 @@ public final class BoundsRecordsTest {
         for (int pack : Bounds.PACKS) {
             for (int count = 1; count <= 4; count++) {
                 RecordLayouts x = Bounds.records(pack, "a:i64;b:i8[" + count + "];");
-                Check.due("5 size with " + count + " bytes, pack " + pack, x.recordInfo(0, 2), 8 + Bounds.up(count, pack));
+                Check.due("5 size with " + count + " bytes, pack " + pack, x.recordInfo(0, 2),
+                        8 + Bounds.up(count, pack));
                 x = Bounds.records(pack, "a:i32;b:u16[" + count + "];");
                 Check.due("5 size with " + count + " u16, pack " + pack, x.recordInfo(0, 2),
                         Bounds.up(4 + 2 * count, Math.min(pack, 4)));
@@ -514,7 +517,8 @@ public final class BoundsRecordsTest {
         RecordLayouts inner = Bounds.records(8, "p:i8;q:%2;r:i64;s:%2;t:b;");
         Check.due("5 size of the inner record", inner.recordInfo(0, 2), 24);
         Check.due("5 its padding", inner.recordInfo(0, 4), 24 - 1 - 2 - 8 - 2 - 1);
-        String[] definitions = {"a:b;", "a:%1;", "a:%1;b:b;", "a:b;b:%1;", "a:i8;b:i64;", "a:i64;b:i8;", "a:%1;b:%16;c:%1;",
+        String[] definitions = {"a:b;", "a:%1;", "a:%1;b:b;", "a:b;b:%1;", "a:i8;b:i64;", "a:i64;b:i8;",
+                "a:%1;b:%16;c:%1;",
             "a:i8;b:i16;c:i32;d:i64;", "a:#0;", "a:#0[4];", "a:i8;b:#0[2];c:%3;", "a:i32[3];b:u8[3];"};
         int[] want = {0, 0, 1, 1, 7, 7, 0, 1, 10, 40, 7 + 20 + 6, 1};
         for (int i = 0; i < definitions.length; i++) {
@@ -643,7 +647,8 @@ public final class BoundsRecordsTest {
                 found(more + paths[leaf], all.indexOf(more + paths[leaf]));
             }
         }
-        for (String text : new String[] {"", "n", "n[3]", "n[4]", "n[-1]", "n[00]", "n[0", "n0]", "a[0]", "z[0].a", "z.",
+        for (String text : new String[] {"", "n", "n[3]", "n[4]", "n[-1]", "n[00]", "n[0", "n0]", "a[0]", "z[0].a",
+                "z.",
             "m.a", "m[2].a", "b", "A", " a", "a ", "\u0000", "z.z", "a".repeat(80), "m[0].a" + "\u0000".repeat(74)}) {
             found(text, RecordLayouts.NONE);
         }

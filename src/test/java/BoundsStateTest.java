@@ -229,7 +229,9 @@ public final class BoundsStateTest {
         }
     }
 
-    /** "Each successful call of a method that is described as undoable saves the state ..., even if nothing changes." */
+    /**
+     * "Each successful call of a method that is described as undoable saves the state ..., even if nothing changes."
+     */
     private static void savesEvenIfNothingChanges() {
         saves("2 newRecord", (x, n) -> x.newRecord(8));
         saves("14 define", (x, n) -> x.define(8));
@@ -482,7 +484,8 @@ public final class BoundsStateTest {
 
     /** Six records, of which one has no fields, and three tables of 1024 bytes in all. */
     private static void digestOfAFullObject() {
-        RecordLayouts x = Bounds.records(8, "-", "a:b;b:b;c:b;d:b;e:b;f:b;g:b;z:%16;", "a:i64[4];b:i64[4];", "k:%9;l:%7;m:%1;",
+        RecordLayouts x = Bounds.records(8, "-", "a:b;b:b;c:b;d:b;e:b;f:b;g:b;z:%16;", "a:i64[4];b:i64[4];",
+                "k:%9;l:%7;m:%1;",
             "a:#2;b:#2;", "a:#1[4];b:#1;");
         x.newTable(4, 6, 1, 0);
         x.newTable(2, 3, 0, 1);

@@ -159,7 +159,8 @@ public final class BoundsTablesTest {
                 String what = rows + " rows of " + size + " bytes";
                 Check.due("18 bytes, " + what, x.tableInfo(0, 5), Bounds.up(rows * size, 8));
                 Check.due("19 the first leaf of the last row, " + what, x.address(0, rows - 1, 0), (rows - 1) * size);
-                Check.due("19 the last leaf of the last row, " + what, x.address(0, rows - 1, size - 1), rows * size - 1);
+                Check.due("19 the last leaf of the last row, " + what, x.address(0, rows - 1, size - 1),
+                        rows * size - 1);
                 Check.due("16 removed, " + what, x.removeTable(0), Bounds.up(rows * size, 8));
             }
         }
@@ -214,7 +215,8 @@ public final class BoundsTablesTest {
                 Check.due("18 bytes of " + rows + " rows in blocks of " + layout, x.tableInfo(0, 5), blocks * block);
                 for (int leaf = 0; leaf < 3; leaf++) {
                     for (int row = 0; row < rows; row++) {
-                        Check.due("19 row " + row + " leaf " + leaf + " in blocks of " + layout, x.address(0, row, leaf),
+                        Check.due("19 row " + row + " leaf " + leaf + " in blocks of " + layout,
+                                x.address(0, row, leaf),
                                 row / layout * block + one.address(0, row % layout, leaf));
                     }
                 }
@@ -454,7 +456,8 @@ public final class BoundsTablesTest {
                     RecordLayouts y = three();
                     y.get(other, 0, 0);
                     y.bestLayout(other, 1, 64);
-                    Check.due("call " + i + " of table " + asked + " after " + other, Check.answer(() -> call.of(y, table)),
+                    Check.due("call " + i + " of table " + asked + " after " + other,
+                            Check.answer(() -> call.of(y, table)),
                             want);
                     Check.due("38 digest after call " + i, y.digest(), x.digest());
                 }
@@ -466,7 +469,8 @@ public final class BoundsTablesTest {
 
     /** "Throws IndexOutOfBoundsException if there is no such table": tables 0 and 2 of 0 to 2. */
     private static void numbersOfTables() {
-        Bounds.CallWith[] calls = {(x, t) -> x.removeTable(t), (x, t) -> x.tableInfo(t, 0), (x, t) -> x.address(t, 0, 0),
+        Bounds.CallWith[] calls = {(x, t) -> x.removeTable(t), (x, t) -> x.tableInfo(t, 0),
+                (x, t) -> x.address(t, 0, 0),
             (x, t) -> x.get(t, 0, 0), (x, t) -> x.set(t, 0, 0, 1), (x, t) -> x.convert(t, 0, 0),
             (x, t) -> x.migrate(t, 0, 0), (x, t) -> x.sort(t, 0, false), (x, t) -> x.fill(t, 0, 1, 1),
             (x, t) -> x.copyRow(t, 0, 0), (x, t) -> x.count(t, 0, 0, 0), (x, t) -> x.findRow(t, 0, 0, 0),
@@ -592,7 +596,8 @@ public final class BoundsTablesTest {
     private static void bitFieldsOfAllWidths() {
         for (int width = 1; width <= 16; width++) {
             long one = 1L << width;
-            for (long value : new long[] {0, 1, one - 1, one, one + 1, -1, -one, one / 2, Long.MAX_VALUE, Long.MIN_VALUE}) {
+            for (long value : new long[] {0, 1, one - 1, one, one + 1, -1, -one, one / 2, Long.MAX_VALUE,
+                    Long.MIN_VALUE}) {
                 written(20 + width, value, Math.floorMod(value, one));
             }
         }
@@ -676,7 +681,8 @@ public final class BoundsTablesTest {
                     int at = x.address(0, 1, 0);
                     for (int i = 0; i < bytes; i++) {
                         int place = order == 0 ? at + i : at + bytes - 1 - i;
-                        Check.due("21 byte " + i + " of type " + type + " order " + order, x.memory(place), 0x11 * (i + 1));
+                        Check.due("21 byte " + i + " of type " + type + " order " + order, x.memory(place),
+                                0x11 * (i + 1));
                     }
                     for (int i = 0; i < bytes; i++) {
                         x.poke(at + i, i == (order == 0 ? bytes - 1 : 0) ? 0x7F : 0);

@@ -433,7 +433,9 @@ public final class BoundsTextsTest {
         Check.due("13 the text is as long as before", x.clearText(), 2);
     }
 
-    /** "-10 minus the syntax error position if there is a syntax error (then nothing changes)", "Undoable, unless ..." */
+    /**
+     * "-10 minus the syntax error position if there is a syntax error (then nothing changes)", "Undoable, unless ..."
+     */
     private static void nothingChangesByAnError() {
         RecordLayouts x = Bounds.records(8, "a:b;");
         Check.write(x, "a:i8;b:i9;");

@@ -48,7 +48,8 @@ public final class RefusedTest {
      * leaves, 5 with one field. Three tables: 24 bytes at 0, 40 at 32, 904 at 80, and 32 bytes of room behind them.
      */
     private static RecordLayouts full() {
-        RecordLayouts x = Bounds.records(8, "a:i8;b:%3;c:i32;", "-", "p:#0[2];q:u8;", "a:b;b:b;c:b;d:b;e:b;f:b;g:b;h:b;",
+        RecordLayouts x = Bounds.records(8, "a:i8;b:%3;c:i32;", "-", "p:#0[2];q:u8;",
+                "a:b;b:b;c:b;d:b;e:b;f:b;g:b;h:b;",
             "a:#0[4];b:#0[4];c:#0[4];d:i8[4];", "a:b;");
         x.newTable(0, 3, 0, 0);
         x.newTable(2, 2, 0, 1);
@@ -243,7 +244,8 @@ public final class RefusedTest {
     }
 
     private static void newTableArgumentFirst() {
-        int[][] wrong = {{0, 0, 0}, {13, 0, 0}, {-1, 0, 0}, {Integer.MIN_VALUE, 0, 0}, {Integer.MAX_VALUE, 0, 0}, {1, -1, 0},
+        int[][] wrong = {{0, 0, 0}, {13, 0, 0}, {-1, 0, 0}, {Integer.MIN_VALUE, 0, 0}, {Integer.MAX_VALUE, 0, 0},
+                {1, -1, 0},
             {1, 9, 0}, {1, Integer.MIN_VALUE, 0}, {1, Integer.MAX_VALUE, 0}, {1, 0, -1}, {1, 0, 2},
             {1, 0, Integer.MIN_VALUE}, {1, 0, Integer.MAX_VALUE}, {0, 9, 2}};
         for (int[] w : wrong) {
