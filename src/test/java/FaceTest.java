@@ -29,10 +29,11 @@ public final class FaceTest {
         "int undo() S", "long digest()"};
 
     private static final String[] FORBIDDEN_WORDS = {
-        "->", "::", "\\btry\\b", "\\bcatch\\b", "\\bfinally\\b", "\\bsynchronized\\b", "\\bassert\\b", "\\bprotected\\b",
-        "\\bMath\\.\\w+Exact", "\\bMAX_VALUE\\b", "\\bMIN_VALUE\\b", "\\bSystem\\.(?!arraycopy\\b)", "\\bRandom\\b",
-        "\\bThread\\b", "\\bStream\\b", "\\bString\\.format\\b", "\\bequals\\(", "\\bhashCode\\b", "\\btoString\\b",
-        "\\bstatic \\{", "\\bwhile \\(true\\)", "\\bfor \\(;;\\)", "^import (?!java\\.util\\.Arrays;)"};
+        "->", "::", "\\btry\\b", "\\bcatch\\b", "\\bfinally\\b", "\\bsynchronized\\b", "\\bassert\\b",
+        "\\bprotected\\b", "\\bMath\\.\\w+Exact", "\\bMAX_VALUE\\b", "\\bMIN_VALUE\\b",
+        "\\bSystem\\.(?!arraycopy\\b)", "\\bRandom\\b", "\\bThread\\b", "\\bStream\\b", "\\bString\\.format\\b",
+        "\\bequals\\(", "\\bhashCode\\b", "\\btoString\\b", "\\bstatic \\{", "\\bwhile \\(true\\)", "\\bfor \\(;;\\)",
+        "^import (?!java\\.util\\.Arrays;)"};
 
     public static void main(String[] args) throws IOException {
         face();

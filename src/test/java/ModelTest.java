@@ -1,3 +1,4 @@
+import java.util.Arrays;
 import java.util.Random;
 
 /** Runs of calls, the same ones for every start of the test, on the program and on the model. */
@@ -93,21 +94,21 @@ public final class ModelTest {
 
     private static void word(String word) {
         for (char c : word.toCharArray()) {
-            same("append(" + (int) c + ")", () -> (long) program.append(c), () -> model.append(c));
+            same("append", (int) c);
         }
     }
 
     private static void define(String text) {
-        same("clearText()", () -> (long) program.clearText(), () -> model.clearText());
+        same("clearText");
         word(text);
         int pack = pack();
-        same("define(" + pack + ")", () -> (long) program.define(pack), () -> model.define(pack));
+        same("define", pack);
     }
 
-    private static void same(String call, java.util.concurrent.Callable<?> one, java.util.concurrent.Callable<?> two) {
-        LOG.append(' ').append(call);
-        Object want = Check.answer(two);
-        Object got = Check.answer(one);
+    private static void same(String name, Object... arguments) {
+        LOG.append(' ').append(name).append(Arrays.toString(arguments));
+        Object want = Call.answer(model, name, arguments);
+        Object got = Call.answer(program, name, arguments);
         if (!got.equals(want)) {
             Check.due(trace + LOG, got, want);
             Check.finish();
@@ -120,22 +121,21 @@ public final class ModelTest {
         int what = near(7);
         int i = near(20);
         switch (below(10)) {
-            case 0: int p = pack(); same("newRecord(" + p + ")", () -> (long) program.newRecord(p), () -> model.newRecord(p)); break;
+            case 0: int p = pack(); same("newRecord", p); break;
             case 1: case 2: case 3: case 4:
                 int name = 96 + below(28);
                 int type = type();
                 int count = below(3) == 0 ? near(6) : 1;
-                same("addField(" + r + ", " + name + ", " + type + ", " + count + ")",
-                        () -> (long) program.addField(r, name, type, count), () -> model.addField(r, name, type, count));
+                same("addField", r, name, type, count);
                 break;
-            case 5: same("recordInfo(" + r + ", " + what + ")", () -> (long) program.recordInfo(r, what), () -> model.recordInfo(r, what)); break;
-            case 6: int f = near(8); same("fieldInfo(" + r + ", " + f + ", " + what + ")", () -> (long) program.fieldInfo(r, f, what), () -> model.fieldInfo(r, f, what)); break;
-            case 7: same("leafInfo(" + r + ", " + leaf + ", " + what + ")", () -> (long) program.leafInfo(r, leaf, what), () -> model.leafInfo(r, leaf, what)); break;
-            case 8: same("pathByte(" + r + ", " + leaf + ", " + i + ")", () -> (long) program.pathByte(r, leaf, i), () -> model.pathByte(r, leaf, i)); break;
+            case 5: same("recordInfo", r, what); break;
+            case 6: int f = near(8); same("fieldInfo", r, f, what); break;
+            case 7: same("leafInfo", r, leaf, what); break;
+            case 8: same("pathByte", r, leaf, i); break;
             default:
                 if (below(6) == 0) {
-                    same("bestSize(" + r + ")", () -> (long) program.bestSize(r), () -> model.bestSize(r));
-                    same("bestOrder(" + r + ", " + i + ")", () -> (long) program.bestOrder(r, i), () -> model.bestOrder(r, i));
+                    same("bestSize", r);
+                    same("bestOrder", r, i);
                 }
         }
     }
@@ -143,23 +143,22 @@ public final class ModelTest {
     private static void callTexts() {
         int r = record();
         switch (below(6)) {
-            case 0: same("clearText()", () -> (long) program.clearText(), () -> model.clearText()); break;
+            case 0: same("clearText"); break;
             case 1: word(WORDS[below(WORDS.length)]); break;
             case 2:
                 word(WORDS[below(WORDS.length)]);
                 int p = pack();
-                same("define(" + p + ")", () -> (long) program.define(p), () -> model.define(p));
+                same("define", p);
                 break;
             case 3:
-                int c = near(128);
-                same("append(" + c + ")", () -> (long) program.append(c), () -> model.append(c));
+                same("append", near(128));
                 break;
             case 4:
                 if (r >= 0 && r < model.records() && model.recordInfo(r, 5) > 0) {
-                    same("clearText()", () -> (long) program.clearText(), () -> model.clearText());
+                    same("clearText");
                     word(model.path(r, below((int) model.recordInfo(r, 5))));
                 }
-                same("findLeaf(" + r + ")", () -> (long) program.findLeaf(r), () -> model.findLeaf(r));
+                same("findLeaf", r);
                 break;
             default:
                 define(RECORDS[below(RECORDS.length)]);
@@ -178,19 +177,18 @@ public final class ModelTest {
                 int rows = below(15) == 0 ? below(16) - 1 : 1 + below(12);
                 int layout = near(9);
                 int order = below(25) == 0 ? below(5) - 1 : below(2);
-                same("newTable(" + r + ", " + rows + ", " + layout + ", " + order + ")",
-                        () -> (long) program.newTable(r, rows, layout, order), () -> model.newTable(r, rows, layout, order));
+                same("newTable", r, rows, layout, order);
                 break;
-            case 2: if (below(3) == 0) { same("removeTable(" + t + ")", () -> (long) program.removeTable(t), () -> model.removeTable(t)); } break;
-            case 3: int what = near(6); same("tableInfo(" + t + ", " + what + ")", () -> (long) program.tableInfo(t, what), () -> model.tableInfo(t, what)); break;
-            case 4: same("address(" + t + ", " + row + ", " + leaf + ")", () -> (long) program.address(t, row, leaf), () -> model.address(t, row, leaf)); break;
-            case 5: same("get(" + t + ", " + row + ", " + leaf + ")", () -> program.get(t, row, leaf), () -> model.get(t, row, leaf)); break;
-            case 6: same("set(" + t + ", " + row + ", " + leaf + ", " + v + ")", () -> program.set(t, row, leaf, v), () -> model.set(t, row, leaf, v)); break;
-            case 7: same("memory(" + a + ")", () -> (long) program.memory(a), () -> model.memory(a)); break;
-            default: int b = near(256); same("poke(" + a + ", " + b + ")", () -> (long) program.poke(a, b), () -> model.poke(a, b));
+            case 2: if (below(3) == 0) { same("removeTable", t); } break;
+            case 3: int what = near(6); same("tableInfo", t, what); break;
+            case 4: same("address", t, row, leaf); break;
+            case 5: same("get", t, row, leaf); break;
+            case 6: same("set", t, row, leaf, v); break;
+            case 7: same("memory", a); break;
+            default: int b = near(256); same("poke", a, b);
         }
         boolean largest = below(2) == 0;
-        same("freeBytes(" + largest + ")", () -> (long) program.freeBytes(largest), () -> model.freeBytes(largest));
+        same("freeBytes", largest);
     }
 
     private static void callConversions() {
@@ -199,12 +197,12 @@ public final class ModelTest {
         int layout = near(9);
         boolean down = below(2) == 0;
         switch (below(7)) {
-            case 0: int order = near(2); same("convert(" + t + ", " + layout + ", " + order + ")", () -> (long) program.convert(t, layout, order), () -> model.convert(t, layout, order)); break;
-            case 1: int r = record(); same("migrate(" + t + ", " + r + ", " + layout + ")", () -> (long) program.migrate(t, r, layout), () -> model.migrate(t, r, layout)); break;
-            case 2: same("compact()", () -> (long) program.compact(), () -> model.compact()); break;
-            case 3: same("sort(" + t + ", " + leaf + ", " + down + ")", () -> (long) program.sort(t, leaf, down), () -> model.sort(t, leaf, down)); break;
-            case 4: int from = rowIn(t); int to = rowIn(t); same("copyRow(" + t + ", " + from + ", " + to + ")", () -> (long) program.copyRow(t, from, to), () -> model.copyRow(t, from, to)); break;
-            default: long v = value(); long w = value(); same("fill(" + t + ", " + leaf + ", " + v + ", " + w + ")", () -> (long) program.fill(t, leaf, v, w), () -> model.fill(t, leaf, v, w));
+            case 0: int order = near(2); same("convert", t, layout, order); break;
+            case 1: int r = record(); same("migrate", t, r, layout); break;
+            case 2: same("compact"); break;
+            case 3: same("sort", t, leaf, down); break;
+            case 4: int from = rowIn(t); int to = rowIn(t); same("copyRow", t, from, to); break;
+            default: long v = value(); long w = value(); same("fill", t, leaf, v, w);
         }
     }
 
@@ -219,12 +217,12 @@ public final class ModelTest {
         Object found = Check.answer(() -> model.get(t, there, leaf));
         long v = found instanceof Long && below(2) == 0 ? (Long) found : value();
         switch (below(6)) {
-            case 0: int relation = near(3); same("count(" + t + ", " + leaf + ", " + relation + ", " + v + ")", () -> (long) program.count(t, leaf, relation, v), () -> model.count(t, leaf, relation, v)); break;
-            case 1: same("findRow(" + t + ", " + leaf + ", " + v + ", " + from + ")", () -> (long) program.findRow(t, leaf, v, from), () -> model.findRow(t, leaf, v, from)); break;
-            case 2: same("sum(" + t + ", " + leaf + ")", () -> program.sum(t, leaf), () -> model.sum(t, leaf)); break;
-            case 3: same("lines(" + t + ", " + set + ", " + from + ", " + to + ", " + line + ")", () -> (long) program.lines(t, set, from, to, line), () -> model.lines(t, set, from, to, line)); break;
-            case 4: same("runs(" + t + ", " + set + ", " + from + ", " + to + ")", () -> (long) program.runs(t, set, from, to), () -> model.runs(t, set, from, to)); break;
-            default: same("bestLayout(" + t + ", " + set + ", " + line + ")", () -> (long) program.bestLayout(t, set, line), () -> model.bestLayout(t, set, line));
+            case 0: int relation = near(3); same("count", t, leaf, relation, v); break;
+            case 1: same("findRow", t, leaf, v, from); break;
+            case 2: same("sum", t, leaf); break;
+            case 3: same("lines", t, set, from, to, line); break;
+            case 4: same("runs", t, set, from, to); break;
+            default: same("bestLayout", t, set, line);
         }
     }
 
@@ -235,11 +233,11 @@ public final class ModelTest {
             case 3: case 4: case 5: callTables(); break;
             case 6: case 7: callConversions(); break;
             case 8: case 9: case 10: callQuestions(); break;
-            default: if (below(3) == 0) { same("undo()", () -> (long) program.undo(), () -> model.undo()); }
+            default: if (below(3) == 0) { same("undo"); }
         }
-        same("records()", () -> (long) program.records(), () -> model.records());
-        same("tables()", () -> (long) program.tables(), () -> model.tables());
-        same("digest()", () -> program.digest(), () -> model.digest());
+        same("records");
+        same("tables");
+        same("digest");
     }
 
     private static void fresh(String kind, int run) {
@@ -284,13 +282,13 @@ public final class ModelTest {
     private static void definitions(int run) {
         fresh("definitions", run);
         define("a:i8;b:i64;");
-        same("newRecord(8)", () -> (long) program.newRecord(8), () -> model.newRecord(8));
+        same("newRecord", 8);
         define("a:i32[4];b:%3;c:u8[4];");
         for (int i = 0; i < 20; i++) {
             define(definitionText());
-            same("digest()", () -> program.digest(), () -> model.digest());
+            same("digest");
             if (model.records() == 6) {
-                same("undo()", () -> (long) program.undo(), () -> model.undo());
+                same("undo");
             }
         }
     }
@@ -300,20 +298,17 @@ public final class ModelTest {
         define("a:i8;b:i64;");
         define(run % 2 == 0 ? "a:i16;b:u8;" : "a:%3;b:u8[3];");
         int pack = 1 << below(4);
-        same("newRecord(" + pack + ")", () -> (long) program.newRecord(pack), () -> model.newRecord(pack));
+        same("newRecord", pack);
         int fields = run % 10 == 0 ? 8 : 3 + below(5);
         for (int f = 0; f < fields; f++) {
             int name = 'a' + f;
             int type = below(3) > 0 ? below(8) : below(3) > 0 ? 21 + below(16) : 100 + below(2);
             int count = type < 20 && below(3) == 0 ? 1 + below(4) : 1;
-            same("addField(2, " + name + ", " + type + ", " + count + ")",
-                    () -> (long) program.addField(2, name, type, count), () -> model.addField(2, name, type, count));
+            same("addField", 2, name, type, count);
         }
-        same("bestSize(2)", () -> (long) program.bestSize(2), () -> model.bestSize(2));
+        same("bestSize", 2);
         for (int i = 0; i < fields; i++) {
-            int position = i;
-            same("bestOrder(2, " + i + ")",
-                    () -> (long) program.bestOrder(2, position), () -> model.bestOrder(2, position));
+            same("bestOrder", 2, i);
         }
     }
 
